@@ -364,11 +364,15 @@ public final class TruceWall {
     /**
      * What a TRUCE tells, never changed, so that MARKS can share it; and what it makes of a wall.
      * A wall is one long, so that searches need no copies: four bits a column, its HEIGHT, or
-     * GATE_SIGN and the town if there is a gate.
+     * GATE_SIGN and the town if there is a gate; above them a bit for each town that left a gate.
      */
     private static final class Truce {
         static final long NOTHING = 0L;
         private static final int GATE_SIGN = 8;
+        private static final int GATE_LEFT_BIT = 4 * COLUMN_LIMIT;
+        // The sign 1, and the GATE_SIGN, in each of the four columns that a stone lies on at most.
+        private static final int EACH_ONE = 0x1111;
+        private static final int EACH_GATE = 0x8888;
 
         final int columns;
         final int high;
@@ -463,17 +467,22 @@ public final class TruceWall {
             if (column + wide > columns) {
                 return 3;
             }
-            for (int c = column; c < column + wide; c++) {
-                if (gateAt(wall, c) != NONE) {
-                    return 4;
-                }
+            int mask = (1 << 4 * wide) - 1;
+            int places = (int) (wall >>> 4 * column) & mask;
+            if ((places & EACH_GATE) != 0) {
+                return 4;
             }
-            boolean stands = kind == ROUND
-                ? roundStands(wall, column) : levelStands(wall, kind, column, wide);
+            int level = places & 15;
+            boolean stands = places == (level * EACH_ONE & mask);
+            if (kind == ROUND) {
+                stands = roundStands(wall, column, level);
+            } else if (kind == BRIDGE) {
+                stands = bridgeStands(places, level, wide);
+            }
             if (!stands) {
                 return 5;
             }
-            return heightAt(wall, column) < high ? 0 : 6;
+            return level < high ? 0 : 6;
         }
 
         private int twinHindrance(long wall, int column) {
@@ -485,8 +494,7 @@ public final class TruceWall {
         }
 
         // Neighbours that are not there, or have a gate, need not hold a round stone.
-        private boolean roundStands(long wall, int column) {
-            int level = heightAt(wall, column);
+        private boolean roundStands(long wall, int column, int level) {
             for (int c = column - 1; c <= column + 1; c += 2) {
                 boolean asked = c >= 0 && c < columns && gateAt(wall, c) == NONE;
                 if (asked && heightAt(wall, c) <= level) {
@@ -496,17 +504,13 @@ public final class TruceWall {
             return true;
         }
 
-        private boolean levelStands(long wall, int kind, int column, int wide) {
-            int level = heightAt(wall, column);
-            int last = column + wide - 1;
-            for (int c = column + 1; c <= last; c++) {
-                int height = heightAt(wall, c);
-                boolean spanned = kind == BRIDGE && c < last && height < level;
-                if (height != level && !spanned) {
+        private static boolean bridgeStands(int places, int level, int wide) {
+            for (int i = 1; i < wide - 1; i++) {
+                if ((places >> 4 * i & 15) > level) {
                     return false;
                 }
             }
-            return true;
+            return places >> 4 * (wide - 1) == level;
         }
 
         /** Why a town can't leave a gate in a column that is there (3 to 5 of REFUSED), or 0. */
@@ -521,13 +525,11 @@ public final class TruceWall {
         }
 
         int gatesLeft(long wall, int town) {
-            int left = gates;
-            for (int c = 0; c < columns && left > 0; c++) {
-                if (gateAt(wall, c) == town) {
-                    left--;
-                }
-            }
-            return left;
+            return gates - ((int) (wall >>> GATE_LEFT_BIT + town) & 1);
+        }
+
+        private static long withGate(long wall, int column, int town) {
+            return withPlace(wall, column, GATE_SIGN + town) | 1L << GATE_LEFT_BIT + town;
         }
 
         boolean canDo(long wall, int town, int act) {
@@ -553,7 +555,7 @@ public final class TruceWall {
         long after(long wall, int town, int act) {
             int column = Acts.columnOf(act);
             if (Acts.isGate(act)) {
-                return withPlace(wall, column, GATE_SIGN + town);
+                return withGate(wall, column, town);
             }
             int raised = heightAt(wall, column) + 1;
             if (kinds[Acts.stoneOf(act)] == TWIN) {
@@ -591,13 +593,24 @@ public final class TruceWall {
             return number;
         }
 
+        /** The number of the wall as if all gates were town 0's: walls are unlike if these are. */
+        int numberOfLooks(long wall) {
+            int number = 0;
+            for (int c = columns - 1; c >= 0; c--) {
+                boolean open = gateAt(wall, c) != NONE;
+                number = number * (high + 3) + (open ? high + 1 : heightAt(wall, c));
+            }
+            return number;
+        }
+
         long wallOf(int number) {
             long wall = NOTHING;
             int rest = number;
             for (int c = 0; c < columns; c++) {
                 int digit = rest % (high + 3);
                 rest /= high + 3;
-                wall = withPlace(wall, c, digit <= high ? digit : GATE_SIGN + digit - high - 1);
+                boolean open = digit > high;
+                wall = open ? withGate(wall, c, digit - high - 1) : withPlace(wall, c, digit);
             }
             return wall;
         }
@@ -605,26 +618,15 @@ public final class TruceWall {
         int manyNumbers() {
             return power(high + 3, columns);
         }
-
-        /** The wall with all gates town 0's: walls are unlike only if these are. */
-        long withoutOwners(long wall) {
-            long bare = wall;
-            for (int c = 0; c < columns; c++) {
-                if (gateAt(wall, c) != NONE) {
-                    bare = withPlace(bare, c, GATE_SIGN);
-                }
-            }
-            return bare;
-        }
     }
 
-    /** Reads a TRUCE from the TAPE; behind the first FAULT it neither steps on nor takes another. */
+    /** Reads a TRUCE from the TAPE; behind its first FAULT it neither steps on nor tells more. */
     private static final class Reader {
         private static final String WORDS =
             "wall  stone gates fine  plain bridgeround twin  lent  cut   wide  level holes day   not   and   or    ";
         private static final int WORD_CELL = 6;
         private static final int WORD_COUNT = 17;
-        // A token is its sign, or FIRST_WORD and the word's number in WORDS, or one of the last four.
+        // A token is its sign, or FIRST_WORD and the word's number in WORDS, or NAME to END.
         private static final int FIRST_WORD = 128;
         private static final int WALL = 128;
         private static final int STONE = 129;
@@ -922,11 +924,12 @@ public final class TruceWall {
 
         private int knownWord(int letters) {
             for (int word = 0; word < WORD_COUNT && letters <= WORD_CELL; word++) {
+                int cell = word * WORD_CELL;
                 int same = 0;
-                while (same < letters && WORDS.charAt(word * WORD_CELL + same) == text[place + same]) {
+                while (same < letters && WORDS.charAt(cell + same) == text[place + same]) {
                     same++;
                 }
-                boolean ends = same == WORD_CELL || WORDS.charAt(word * WORD_CELL + same) == ' ';
+                boolean ends = same == WORD_CELL || WORDS.charAt(cell + same) == ' ';
                 if (same == letters && ends) {
                     return FIRST_WORD + word;
                 }
@@ -1165,7 +1168,7 @@ public final class TruceWall {
             }
         }
 
-        int outcome(long wall, int town, int depth) {
+        private int outcome(long wall, int town, int depth) {
             int number = 2 * truce.numberOf(wall) + town;
             if (number >= known.length || depth > DEEPEST) {
                 return town;
@@ -1183,7 +1186,9 @@ public final class TruceWall {
                 int act = truce.candidates[i];
                 if (truce.canDo(wall, town, act)) {
                     int end = later(outcome(truce.after(wall, town, act), 1 - town, depth + 1));
-                    chosen = chosen == NONE || score(end, town) > score(chosen, town) ? end : chosen;
+                    if (chosen == NONE || score(end, town) > score(chosen, town)) {
+                        chosen = end;
+                    }
                 }
             }
             return chosen == NONE ? truce.payer(wall, town) : chosen;
@@ -1219,7 +1224,7 @@ public final class TruceWall {
         private static final int MODULUS = 1000000007;
         private final int[] many = new int[SMALL_WALLS];
 
-        /** All that can be played from a wall; counted, or only told by 1 (a count may wrap to 0). */
+        /** All that can be played from a wall: counted, or told by 1, as a count may come to 0. */
         void spread(Truce truce, long from, int town, int days, boolean counted) {
             for (int i = 0; i < many.length; i++) {
                 many[i] = 0;
@@ -1235,7 +1240,7 @@ public final class TruceWall {
             }
         }
 
-        // From the greatest number down: what comes of a wall has a greater one, and is done already.
+        // From the greatest number down: what comes of a wall has a greater one, and is through.
         private boolean spreadDay(Truce truce, int town, boolean counted) {
             boolean moved = false;
             for (int i = Math.min(many.length, truce.manyNumbers()) - 1; i >= 0; i--) {
@@ -1265,12 +1270,12 @@ public final class TruceWall {
             int unlike = 0;
             for (int i = many.length - 1; i >= 0; i--) {
                 if (many[i] != 0) {
-                    // Without owners the number is no greater, so that wall is still to be counted.
-                    int bare = truce.numberOf(truce.withoutOwners(truce.wallOf(i)));
-                    if (bare == i) {
+                    // What it looks like has no greater number, so that is still to be counted.
+                    int looks = truce.numberOfLooks(truce.wallOf(i));
+                    if (looks == i) {
                         unlike++;
-                    } else if (bare < many.length) {
-                        many[bare] = 1;
+                    } else if (looks < many.length) {
+                        many[looks] = 1;
                     }
                 }
             }
@@ -1278,10 +1283,10 @@ public final class TruceWall {
         }
 
         int waysTo(Truce truce, long wall) {
-            long wanted = truce.withoutOwners(wall);
+            int wanted = truce.numberOfLooks(wall);
             long sum = 0L;
             for (int i = 0; i < many.length; i++) {
-                if (many[i] != 0 && truce.withoutOwners(truce.wallOf(i)) == wanted) {
+                if (many[i] != 0 && truce.numberOfLooks(truce.wallOf(i)) == wanted) {
                     sum += many[i];
                 }
             }
