@@ -1169,8 +1169,11 @@ public final class TruceWall {
         }
 
         private int outcome(long wall, int town, int depth) {
+            if (truce == null || depth > DEEPEST) {
+                return town;
+            }
             int number = 2 * truce.numberOf(wall) + town;
-            if (number >= known.length || depth > DEEPEST) {
+            if (number >= known.length) {
                 return town;
             }
             if (known[number] == 0) {

@@ -21,7 +21,7 @@ public final class ActsTest {
 
     private void noSuch() {
         TruceWall wall = Check.told("wall 5 2;stone p plain 2;stone c cut 3;stone t twin 1;stone b bridge 4;");
-        int[][] none = {{-1, 0, 1}, {4, 0, 1}, {Integer.MIN_VALUE, 0, 1}, {Integer.MAX_VALUE, 0, 1}, {0, -1, 2},
+        int[][] none = {{-1, 0, 1}, {4, 0, 1}, {4, 0, 0}, {Integer.MIN_VALUE, 0, 1}, {Integer.MAX_VALUE, 0, 1}, {0, -1, 2},
             {0, 5, 2}, {0, Integer.MAX_VALUE, 2}, {0, 0, 1}, {0, 0, 3}, {0, 0, 0}, {0, 0, -2}, {1, 0, 0},
             {1, 0, 4}, {1, 0, -1}, {1, 0, Integer.MAX_VALUE}, {2, 2, 1}, {2, 0, 2}, {3, 0, 3}};
         for (int[] act : none) {
@@ -67,6 +67,7 @@ public final class ActsTest {
         check.due("too high", wall.fits(1, 1, 3), 6);
         check.due("too high", wall.fits(0, 1, 2), 6);
         check.due("a twin of which one is too high", wall.fits(3, 0, 1), 6);
+        check.due("from the other side", wall.fits(3, 3, 1), 6);
         check.due("not standing before too high", wall.fits(0, 0, 2), 5);
         check.due("round at 1 does not stand", wall.fits(2, 1, 1), 5);
         check.due("who: town 0 set the plain one, the bridge over it", wall.column(1, 3), 0);
@@ -75,6 +76,26 @@ public final class ActsTest {
         check.due("holes in 1", wall.column(1, 2), 0);
         check.due("holes of town 0", wall.state(5), 1);
         check.due("holes of town 1", wall.state(6), 0);
+    }
+
+    private void rounds() {
+        TruceWall wall = Check.told("wall 5 3;stone p plain 1;stone r round 1;");
+        setAll(wall, new int[] {0, 1, 1});
+        check.due("only the left one is higher", wall.fits(1, 2, 1), 5);
+        check.due("only the right one is there", wall.fits(1, 0, 1), 0);
+        setAll(wall, new int[] {0, 3, 1}, new int[] {0, 4, 1});
+        check.due("both are higher", wall.fits(1, 2, 1), 0);
+        check.due("only the left one is there, and level", wall.fits(1, 4, 1), 5);
+        setAll(wall, new int[] {0, 3, 1});
+        check.due("only the left one is there", wall.fits(1, 4, 1), 0);
+        setAll(wall, new int[] {0, 2, 1});
+        check.due("the left one is level", wall.fits(1, 2, 1), 5);
+        setAll(wall, new int[] {0, 2, 1});
+        check.due("the first is lower", wall.fits(1, 1, 1), 5);
+        setAll(wall, new int[] {0, 0, 1});
+        check.due("the first is level", wall.fits(1, 1, 1), 5);
+        setAll(wall, new int[] {0, 0, 1});
+        check.due("both are higher", wall.fits(1, 1, 1), 0);
     }
 
     private void bridges() {
@@ -147,6 +168,7 @@ public final class ActsTest {
         check.due("town 1: something is built there", wall.leave(0), 5);
         setAll(wall, new int[] {3});
         check.due("gate of town 1", wall.column(3, 1), 1);
+        check.due("gates of 1", wall.state(8), 0);
         check.due("closed: each column without a gate is high", wall.state(2), 1);
         check.due("town 1 closed it by a gate", wall.state(3), 1);
         check.due("no such column before over", wall.leave(4), 1);
@@ -243,6 +265,9 @@ public final class ActsTest {
         }
         check.due("nothing to take back", wall.undo(), false);
         check.due("no holes", wall.column(1, 2), 0);
+        for (int c = 0; c < 3; c++) {
+            check.due("nobody's", wall.column(c, 3), -1);
+        }
     }
 
     public static void main(String[] args) {
@@ -250,6 +275,7 @@ public final class ActsTest {
         ActsTest test = new ActsTest(check);
         test.noSuch();
         test.kinds();
+        test.rounds();
         test.bridges();
         test.lent();
         test.gates();

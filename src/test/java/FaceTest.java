@@ -88,6 +88,12 @@ public final class FaceTest {
         for (int what = 0; what < states.length; what++) {
             check.due("state " + what, Check.state(wall, what), states[what]);
         }
+        for (int c = 0; c < 2; c++) {
+            int[] bare = {0, -1, 0, -1, -1};
+            for (int what = 0; what < bare.length; what++) {
+                check.due("column " + c + " " + what, wall.column(c, what), bare[what]);
+            }
+        }
         check.due("no stone", wall.stone(0, 0), -1);
         check.due("no stone fits", wall.fits(0, 0, 1), 1);
         check.due("over before no gates", wall.leave(0), 2);

@@ -17,6 +17,22 @@ public final class PlayTest {
         check.due(what + ": holds of none", wall.holds(-1), -1);
     }
 
+    private void anyOrder() {
+        TruceWall wall = Check.told("wall 3 1;stone a plain 1;stone b plain 2;");
+        check.due("holds asked first", wall.holds(3), 2);
+        Check.tell(wall, "wall 3 1;stone c plain 3;stone a plain 1;");
+        check.due("holds asked first of another", wall.holds(1), 3);
+        Check.tell(wall, "wall 3 1;stone a plain 1;stone b plain 2;");
+        check.due("best asked first", wall.best(), 3);
+        wall.set(0, 0, 1);
+        check.due("town 0 by the last", wall.mason(0, 1), 0);
+        check.due("town 1 by the last", wall.mason(1, 1), 1);
+        check.due("town 1 by the first", wall.mason(1, 0), 0);
+        wall.undo();
+        check.due("town 0 by the first", wall.mason(0, 0), 0);
+        check.due("town 0 by the last", wall.mason(0, 1), 1);
+    }
+
     private void bestPlay() {
         play("nothing to do", new TruceWall(), 0, 0, -1);
         play("one each", Check.told("wall 2 1;stone a plain 1;"), 1, 2, 0, 2, 2);
@@ -92,6 +108,7 @@ public final class PlayTest {
     public static void main(String[] args) {
         Check check = new Check("PlayTest");
         PlayTest test = new PlayTest(check);
+        test.anyOrder();
         test.bestPlay();
         test.masonRules();
         check.end();

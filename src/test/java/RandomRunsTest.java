@@ -195,6 +195,34 @@ public final class RandomRunsTest {
         }
     }
 
+    private int wild() {
+        int[] edges = {Integer.MIN_VALUE, Integer.MAX_VALUE, -1, 0, 1, 2, 3, 4, 5, 9, 10, 30, 31, 60, 100, 250, 9999};
+        return below(8) == 0 ? random.nextInt() : edges[below(edges.length)];
+    }
+
+    private void wildCalls(TruceWall wall, Reference reference, String text) {
+        int a = wild();
+        int b = wild();
+        int c = wild();
+        String what = a + " " + b + " " + c + " in " + text;
+        check.due("fits " + what, wall.fits(a, b, c), reference.fits(a, b, c));
+        check.due("set " + what, wall.set(a, b, c), reference.set(a, b, c));
+        check.due("leave " + what, wall.leave(a), reference.leave(a));
+        check.due("stone " + what, wall.stone(a, b), reference.stone(a, b));
+        check.due("column " + what, wall.column(a, b), reference.column(a, b));
+        check.due("state " + what, Check.state(wall, a), reference.state(a));
+        check.due("act " + what, wall.act(a, b), reference.act(a, b));
+        check.due("holds " + what, wall.holds(a), reference.holds(a));
+        check.due("mason " + what, wall.mason(a, b), reference.mason(a, b));
+        check.due("reached " + what, wall.reached(a), reference.reached(a));
+        check.due("histories " + what, wall.histories(a), reference.histories(a));
+        check.due("lots " + what, wall.lots(a, b > 20 ? 101 : b, c), reference.lots(a, b > 20 ? 101 : b, c));
+        check.due("mark " + what, wall.mark(a, b < 2), reference.mark(a, b < 2));
+        check.due("count " + what, wall.count(a), reference.count(a));
+        long signs = random.nextLong();
+        check.due("feed " + signs, wall.feed(signs, ~signs, signs * 31), reference.feed(signs, ~signs, signs * 31));
+    }
+
     private void run(boolean small, int steps) {
         TruceWall wall = new TruceWall();
         Reference reference = new Reference();
@@ -208,6 +236,9 @@ public final class RandomRunsTest {
             }
             if (below(6) == 0) {
                 allFits(wall, reference, text);
+            }
+            if (below(4) == 0) {
+                wildCalls(wall, reference, text);
             }
             if (below(5) == 0) {
                 compareSearches(wall, reference, text);

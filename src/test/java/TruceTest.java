@@ -32,6 +32,8 @@ public final class TruceTest {
         fault(1, "^7");
         fault(1, "^walls 2 1;");
         fault(1, "wall^");
+        fault(1, "^call 2 1;");
+        fault(1, "wall 2 ^;");
         fault(1, "wall ^a 1;");
         fault(1, "wall ^;");
         fault(4, "wall ^1 1;");
@@ -62,6 +64,7 @@ public final class TruceTest {
         for (String kept : Reference.KEPT) {
             fault(1, w + "stone ^" + kept + " plain 1;");
         }
+        good(w + "stone call plain 1;stone ant plain 1;stone ox cut 1;");
         good(w + "stone walls plain 1;stone a plain 2;stone plai plain 3;stone o plain 4;stone ors cut 4;");
         good(w + "stone abcdefgh plain 1;stone abcdefg plain 1;stone bridges bridge 2;");
         fault(1, w + "stone ^abcdefghi plain 1;");
@@ -69,6 +72,7 @@ public final class TruceTest {
         fault(1, w + "stone a^B plain 1;");
         fault(1, w + "stone a ^a 1;");
         fault(1, w + "stone a ^wall 1;");
+        fault(1, w + "stone a ^1;");
         fault(1, w + "stone a ^wide 1;");
         fault(1, w + "stone a plain ^;");
         fault(1, w + "stone a plain 1 ^gates 1;");
@@ -118,6 +122,8 @@ public final class TruceTest {
         fault(1, f + "wide^!;");
         fault(1, f + "^12345;");
         fault(1, f + "not ^and 1;");
+        fault(1, f + "(^abcdefghi 1);");
+        fault(1, f + "(^12345 1);");
         good(f + "(1<2)<3;");
         good(f + "1<2 and 2<3 or not 3=4;");
         good(f + "((((1))));");
@@ -151,6 +157,13 @@ public final class TruceTest {
         bill("1 or 0 and 0", 0);
         bill("0 and 0 or 7", 1);
         bill("2 and 4", 1);
+        bill("1 and 1", 1);
+        bill("0 and 1", 0);
+        bill("1 and 0", 0);
+        bill("1 or 1", 1);
+        bill("0 or 1", 1);
+        bill("1=2", 0);
+        bill("3<2", 0);
         bill("0 or 0", 0);
         bill("not 0*5", 5);
         bill("not 3", 0);
@@ -220,6 +233,19 @@ public final class TruceTest {
         check.due("another truce", Check.tell(wall, "wall 3 1;stone z cut 1;"), 0);
         check.due("its stones", wall.count(2), 1);
         check.due("no stone 1 now", wall.stone(1, 0), -1);
+        check.due("none that fits", wall.fits(1, 0, 3), 1);
+    }
+
+    private void forgotten() {
+        TruceWall wall = Check.told("wall 2 1;stone a plain 2;gates 1;fine 7;");
+        check.due("told again", Check.tell(wall, "wall 2 1;stone a plain 2;gates 0;fine 5;"), 0);
+        wall.set(0, 0, 2);
+        check.due("the fine is the new one", wall.state(4), 5);
+        check.due("told with a fault", Check.tell(wall, "wall 2 1;gates 1;fine 9"), 1 + 16 * 23);
+        check.due("told without", Check.tell(wall, "wall 2 1;stone a plain 2;"), 0);
+        check.due("no gates", wall.state(7), 0);
+        wall.set(0, 0, 2);
+        check.due("it is wide", wall.state(4), 2);
     }
 
     private void small() {
@@ -243,6 +269,7 @@ public final class TruceTest {
         test.facts();
         test.stones();
         test.small();
+        test.forgotten();
         check.end();
     }
 }

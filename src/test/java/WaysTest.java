@@ -32,7 +32,9 @@ public final class WaysTest {
         reached("over", new TruceWall(), 1);
         TruceWall wall = Check.told("wall 2 2;stone a plain 1;");
         reached("from nothing", wall, 1, 2, 3, 2, 1);
+        check.due("now", wall.reached(0), 1);
         wall.set(0, 0, 1);
+        check.due("now, as it is", wall.reached(0), 1);
         // From 1 0 on: 2 0 and 1 1, then 2 1 and 1 2, then 2 2.
         reached("from now on", wall, 1, 2, 2, 1);
         reached("like stones make like walls", Check.told("wall 2 2;stone a plain 1;stone b lent 1;"), 1, 2, 3, 2, 1);
