@@ -5,9 +5,15 @@ final class Check {
     private final String name;
     private int asked = 0;
     private int wrong = 0;
+    private String sentence = "";
 
     Check(String name) {
         this.name = name;
+    }
+
+    /** The document's own words that the answers from here on are due by. */
+    void sentence(String words) {
+        sentence = " '" + words + "'";
     }
 
     void due(String what, long got, long want) {
@@ -15,7 +21,7 @@ final class Check {
         if (got != want) {
             wrong++;
             if (wrong <= 20) {
-                System.out.println(name + ": " + what + " answered " + got + ", due is " + want);
+                System.out.println(name + sentence + ": " + what + " answered " + got + ", due is " + want);
             }
         }
     }
@@ -60,6 +66,26 @@ final class Check {
             throw new IllegalStateException("fault " + fault + " in " + text);
         }
         return wall;
+    }
+
+    /** All that can be asked of an object without a search, so that two such texts show a change. */
+    static String snapshot(TruceWall wall) {
+        StringBuilder text = new StringBuilder();
+        for (int what = 0; what <= 9; what++) {
+            text.append(state(wall, what)).append(' ');
+        }
+        for (int what = 0; what <= 5; what++) {
+            text.append(wall.count(what)).append(' ');
+        }
+        for (int i = 0; i < 10; i++) {
+            for (int what = 0; what <= 3; what++) {
+                text.append(wall.column(i, what)).append(' ').append(wall.stone(i, what)).append(' ');
+            }
+        }
+        for (int i = 0; i < state(wall, 9); i++) {
+            text.append(wall.act(i, 0)).append(wall.act(i, 1)).append(wall.act(i, 2)).append(' ');
+        }
+        return text.toString();
     }
 
     /** -99 stands for NoSuchElementException, which no state answers. */

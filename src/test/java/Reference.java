@@ -278,6 +278,15 @@ final class Reference {
     private final Map<String, int[]> solved = new HashMap<>();
     private Law solvedLaw = null;
 
+    static Reference told(String text) {
+        Reference reference = new Reference();
+        reference.tape = text;
+        if (reference.truce() != 0) {
+            throw new IllegalStateException("fault in " + text);
+        }
+        return reference;
+    }
+
     Position now() {
         return line.get(line.size() - 1);
     }
