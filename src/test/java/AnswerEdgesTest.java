@@ -74,7 +74,7 @@ public final class AnswerEdgesTest {
     }
 
     private void stones() {
-        check.sentence("Promise 4: Of a stone, what 0: its KIND (0 .. 5), 1: how wide; NONE: others");
+        check.sentence("Promise 4: Of a stone, what 0: its KIND ... 1: how wide; NONE: others");
         TruceWall wall = Check.told(FULL);
         int[] wides = {4, 3, 1, 1, 2, 4};
         for (int s = -1; s <= 6; s++) {

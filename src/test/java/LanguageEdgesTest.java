@@ -128,7 +128,7 @@ public final class LanguageEdgesTest {
     }
 
     private void signsAndAllElse() {
-        check.sentence("the signs ( ) < = + - * ;  All else is none");
+        check.sentence("the signs ( ) < = + - * ;  All else ... is none");
         for (char sign = 33; sign <= 126; sign++) {
             boolean isLetter = sign >= 'a' && sign <= 'z';
             boolean isDigit = sign >= '0' && sign <= '9';
@@ -266,7 +266,7 @@ public final class LanguageEdgesTest {
     }
 
     private void onceEach() {
-        check.sentence("fine: once each ... 3 the words gates, fine a second time");
+        check.sentence("fine: once each ... the words gates, fine a second time");
         faultBehind(3, WALL + "gates 1;", "gates 1;");
         faultBehind(3, WALL + "gates 0;", "gates 0;");
         faultBehind(3, WALL + "gates 0;", "gates");
@@ -362,7 +362,7 @@ public final class LanguageEdgesTest {
     }
 
     private void withinFive() {
-        check.sentence("no PART lies within 5 of not and ( ) ... 5 not, or a PART, within 5 others");
+        check.sentence("no PART lies within 5 of not and ( ) ... not, or a PART, within 5 others");
         for (int deep = 0; deep <= 4; deep++) {
             for (int mask = 0; mask < 1 << deep; mask++) {
                 good(WALL + "fine " + opened(mask, deep) + "1" + ")".repeat(Integer.bitCount(mask)) + ";");
@@ -485,7 +485,7 @@ public final class LanguageEdgesTest {
     }
 
     private void nothingOlder() {
-        check.sentence("what reads it takes it: what was read before is no part of the text");
+        check.sentence("what reads it takes it ... the end being one at the text's length");
         TruceWall wall = new TruceWall();
         check.due("a long word", Check.tell(wall, "wallwall"), 1);
         check.due("a shorter one", Check.tell(wall, "wall"), 1 + 16 * 4);
@@ -498,7 +498,7 @@ public final class LanguageEdgesTest {
     }
 
     private void longFines() {
-        check.sentence("fine E ; as long as the TAPE has room, and told again and again");
+        check.sentence("fine E ; ... The TAPE has at most 1,000 signs");
         // The text has all 1,000 signs.
         String ahead = "wall 2 1;stone a plain 2;fine 1";
         for (String step : new String[] {"+1", "*1", "-1"}) {
@@ -554,7 +554,7 @@ public final class LanguageEdgesTest {
     }
 
     private void withAFault() {
-        check.sentence("truce: 0, or its FAULT (all stays then)");
+        check.sentence("Promise 3: The TAPE is read as a TRUCE: 0, or its FAULT (all stays then)");
         TruceWall wall = Check.told("wall 4 3;stone b bridge 3;stone p plain 1;gates 1;fine 3;");
         wall.set(1, 0, 1);
         wall.set(1, 2, 1);

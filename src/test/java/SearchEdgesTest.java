@@ -191,7 +191,7 @@ public final class SearchEdgesTest {
     }
 
     private void masonsArguments() {
-        check.sentence("mason: who PAYS if a town goes by a rule; NONE: others");
+        check.sentence("Promise 16: MASON: who PAYS if a town goes by a rule; NONE: others");
         TruceWall wall = Check.told("wall 3 1;stone a plain 1;stone b plain 2;");
         for (int town = -2; town <= 3; town++) {
             for (int rule = -2; rule <= 4; rule++) {
@@ -284,7 +284,7 @@ public final class SearchEdgesTest {
     }
 
     private void largest() {
-        check.sentence("SMALL is a wall of 5 columns at most ...: the largest ones, with all their gates");
+        check.sentence("with (H and 1) to the power of W 256 at most");
         for (String text : LARGEST) {
             TruceWall wall = Check.told(text);
             Reference reference = Reference.told(text);
@@ -424,7 +424,7 @@ public final class SearchEdgesTest {
     }
 
     private void asksChangeNothing() {
-        check.sentence("What is asked below is asked ...: it does nothing");
+        check.sentence("What is asked below is asked of SMALL ones, from now on");
         for (String text : TRUCES) {
             TruceWall wall = Check.told(text);
             String before = Check.snapshot(wall);
